@@ -1,5 +1,14 @@
+import java.util.function.Supplier;
+
 /** What the tests share: answers beside those that are due, and rooms laid from a text. */
 final class Due {
+    /** Numbers that no call is told. */
+    static final int[] FAR = {-1, Integer.MIN_VALUE, Integer.MAX_VALUE};
+
+    interface Call {
+        long on(ShoutedPrices x);
+    }
+
     private final String test;
     private int asked = 0;
     private int wrong = 0;
@@ -16,6 +25,17 @@ final class Due {
         }
     }
 
+    void holds(String what, boolean so) {
+        is(what, so ? 1 : 0, 1);
+    }
+
+    /** A call that changes nothing: its answer, and all else as in a twin that it was not asked of. */
+    void changesNothing(String call, Supplier<ShoutedPrices> made, Call asked, long answer) {
+        ShoutedPrices x = made.get(), twin = made.get();
+        is(call, asked.on(x), answer);
+        holds(call + " changes nothing", Whole.of(x).equals(Whole.of(twin)));
+    }
+
     void end() {
         System.out.println(test + ": " + asked + " answers, " + wrong + " not as due");
         if (wrong != 0 || asked == 0) {
@@ -27,14 +47,19 @@ final class Due {
     static int write(ShoutedPrices x, String text) {
         int answer = x.count(3);
         for (int from = 0; from < text.length(); from += 8) {
-            int n = Math.min(8, text.length() - from);
-            long v = 0;
-            for (int i = 0; i < n; i++) {
-                v = v << 8 | text.charAt(from + i);
-            }
-            answer = x.write(n, v);
+            String part = text.substring(from, Math.min(from + 8, text.length()));
+            answer = x.write(part.length(), packed(part));
         }
         return answer;
+    }
+
+    /** Up to eight signs as a number, the first one highest. */
+    static long packed(String signs) {
+        long v = 0;
+        for (int i = 0; i < signs.length(); i++) {
+            v = v << 8 | signs.charAt(i);
+        }
+        return v;
     }
 
     static int fault(String text) {
@@ -56,13 +81,5 @@ final class Due {
             System.exit(1);
         }
         return x;
-    }
-
-    static String repeat(String item, int times) {
-        StringBuilder all = new StringBuilder();
-        for (int i = 0; i < times; i++) {
-            all.append(item);
-        }
-        return all.toString();
     }
 }

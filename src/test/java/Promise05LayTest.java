@@ -179,5 +179,16 @@ public final class Promise05LayTest {
         due.is("lay", Due.lay(x, "v9,0;c1,0;"), 2);
         x.wipe();
         due.holds("as a new object", Whole.of(x).equals(Whole.of(new ShoutedPrices())));
+        // nor of a text that was not laid, or laid before that one
+        for (String before : new String[] {"v8,1;", "v8,1;c0,4;", "v8,1;v8,1;c0,4;v7,3;"}) {
+            x = new ShoutedPrices();
+            for (int i = 0; i < 3; i++) {
+                Due.lay(x, "n7;t9;l30;x1;h2;" + before);
+                x.fault();
+            }
+            due.is("lay", Due.lay(x, "v9,0;c1,0;"), 2);
+            x.wipe();
+            due.holds("as a new object behind " + before, Whole.of(x).equals(Whole.of(new ShoutedPrices())));
+        }
     }
 }

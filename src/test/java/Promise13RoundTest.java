@@ -7,6 +7,7 @@ public final class Promise13RoundTest {
         withoutATrade();
         oneTrade();
         twoTrades();
+        withoutATradeBehindOne();
         gainBelowZero();
         soonAtTheLastStep();
         drawsOfTheGreatestNumbers();
@@ -51,6 +52,22 @@ public final class Promise13RoundTest {
         round("v90,2;v70,2;v50,2;c20,2;c40,2;c60,2;", 3, 0, 2, 100, 1, 0);
         // both at 0
         round("v99,2;v99,2;c0,2;c0,2;n1;", 3, 0, 2, 198, 1, 0);
+    }
+
+    /** Each round is by itself. */
+    private static void withoutATradeBehindOne() {
+        ShoutedPrices x = Due.laid("v80,2;c20,2;n2;");
+        int trades = Draw.order(2, 1, 0), none = Draw.order(2, 1, 1);
+        for (int rule = 0; rule <= 3; rule++) {
+            for (int what = 0; what <= 3; what++) {
+                due.is("a trade by rule " + rule, x.round(rule, trades, 0), 1);
+                due.is("none behind it", x.round(0, none, what), 0);
+            }
+        }
+        for (int p = 0; p <= 1; p++) {
+            due.is("a price", x.of(0, trades, p), 60);
+            due.is("none behind it", x.of(0, none, p), NONE);
+        }
     }
 
     private static void gainBelowZero() {

@@ -84,9 +84,9 @@ public final class Promise15MeansTest {
     private static void theLogIsAsItWas() {
         for (int rule = 0; rule <= 3; rule++) {
             int its = rule;
-            long sum = Whole.used().means(rule, 9999, 0);
-            due.changesNothing("means(" + rule + ", 9999, 0)", Whole::used, x -> x.means(its, 9999, 0), sum);
-            due.changesNothing("means(" + rule + ", 0, 2)", Whole::full, x -> x.means(its, 0, 2), Whole.full().means(rule, 0, 2));
+            int used = Whole.used().means(rule, 9999, 0), full = Whole.full().means(rule, 0, 2);
+            due.changesNothing("means(" + rule + ", 9999, 0)", Whole::used, x -> x.means(its, 9999, 0), used);
+            due.changesNothing("means(" + rule + ", 0, 2)", Whole::full, x -> x.means(its, 0, 2), full);
         }
         ShoutedPrices x = new ShoutedPrices();
         x.means(0, 0, 0);

@@ -8,7 +8,9 @@ public final class Promise16RulesTest {
         theGreatestGainTheLeastElse();
         eachRuleIsBestSomewhere();
         bestInAll();
-        besideTheMeans();
+        noneInAll();
+        oneMore();
+        behindTheGreatestZ();
         theLogIsAsItWas();
         bad();
         due.end();
@@ -69,28 +71,67 @@ public final class Promise16RulesTest {
         due.holds("the bell is best in all", seen[3] > 0);
     }
 
-    private static void besideTheMeans() {
-        for (int i = 0; i < 30; i++) {
-            int z = i < 10 ? 9990 + i : 97 * i;
-            ShoutedPrices x = Due.laid("v90,0;v80,1;v40,3;c10,0;c30,1;c20,4;n40;");
-            int[] best = new int[3];
-            for (int what = 0; what <= 2; what++) {
-                for (int rule = 1; rule <= 3; rule++) {
-                    int more = x.means(rule, z, what) - x.means(best[what], z, what);
-                    best[what] = (what == 0 ? more > 0 : more < 0) ? rule : best[what];
-                }
-                due.is("rules(" + z + ", " + what + ")", x.rules(z, what), best[what]);
-            }
-            int inAll = best[0] == best[1] && best[1] == best[2] ? best[0] : NONE;
-            due.is("rules(" + z + ", 3)", x.rules(z, 3), inAll);
+    /** Two of the three are not enough. */
+    private static void noneInAll() {
+        // shouts gain as much as any and wander as little, but posted prices, at which nobody buys, are sooner
+        ShoutedPrices x = Due.laid("v80,2;c20,2;");
+        due.is("by gain", x.rules(0, 0), 0);
+        due.is("by soon", x.rules(0, 1), 2);
+        due.is("by wanders", x.rules(0, 2), 0);
+        due.is("in all", x.rules(0, 3), NONE);
+        boolean[] lacks = new boolean[2];
+        for (int z = 0; z < 40; z++) {
+            besideTheMeans("v90,0;v80,1;v40,3;c10,0;c30,1;c20,4;n40;", z);
+            int[] best = besideTheMeans("v90,2;v80,1;v40,3;c10,0;c30,1;c20,2;n6;", z);
+            lacks[0] |= best[1] == best[2] && best[0] != best[1];
+            lacks[1] |= best[0] == best[1] && best[0] != best[2];
         }
+        due.holds("not by gain alone", lacks[0]);
+        due.holds("not by wanders alone", lacks[1]);
+    }
+
+    /** Of trades that gain 1 each the sums differ by one. */
+    private static void oneMore() {
+        int byOne = 0;
+        for (int z = 0; z < 60; z++) {
+            besideTheMeans("v51,0;c50,0;v49,0;n30;", z);
+            ShoutedPrices x = Due.laid("v51,0;c50,0;v49,0;n30;");
+            int best = x.rules(z, 0);
+            for (int rule = 0; rule < best; rule++) {
+                byOne += x.means(best, z, 0) - x.means(rule, z, 0) == 1 ? 1 : 0;
+            }
+        }
+        due.holds("one more is better", byOne > 5);
+    }
+
+    private static void behindTheGreatestZ() {
+        for (int z = 9990; z <= 9999; z++) {
+            besideTheMeans("v90,0;v80,1;v40,3;c10,0;c30,1;c20,4;n40;", z);
+        }
+    }
+
+    /** The best rule by each, from what the means say. */
+    private static int[] besideTheMeans(String text, int z) {
+        ShoutedPrices x = Due.laid(text);
+        int[] best = new int[3];
+        for (int what = 0; what <= 2; what++) {
+            for (int rule = 1; rule <= 3; rule++) {
+                int more = x.means(rule, z, what) - x.means(best[what], z, what);
+                best[what] = (what == 0 ? more > 0 : more < 0) ? rule : best[what];
+            }
+            due.is(text + " rules(" + z + ", " + what + ")", x.rules(z, what), best[what]);
+        }
+        int inAll = best[0] == best[1] && best[1] == best[2] ? best[0] : NONE;
+        due.is(text + " rules(" + z + ", 3)", x.rules(z, 3), inAll);
+        return best;
     }
 
     private static void theLogIsAsItWas() {
         for (int what = 0; what <= 3; what++) {
             int its = what;
-            due.changesNothing("rules(9999, " + what + ")", Whole::used, x -> x.rules(9999, its), Whole.used().rules(9999, what));
-            due.changesNothing("rules(0, " + what + ")", Whole::full, x -> x.rules(0, its), Whole.full().rules(0, what));
+            int used = Whole.used().rules(9999, what), full = Whole.full().rules(0, what);
+            due.changesNothing("rules(9999, " + what + ")", Whole::used, x -> x.rules(9999, its), used);
+            due.changesNothing("rules(0, " + what + ")", Whole::full, x -> x.rules(0, its), full);
         }
         ShoutedPrices x = new ShoutedPrices();
         x.rules(0, 3);

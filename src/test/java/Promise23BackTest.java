@@ -99,7 +99,17 @@ public final class Promise23BackTest {
         due.is("back", x.back(), 0);
         due.is("no shouts at first", x.count(4), 0);
         due.is("known by none", x.known(1), 99);
-        // LAST is kept, too
+        stepAndLast();
+    }
+
+    private static void stepAndLast() {
+        ShoutedPrices x = Due.laid("v80,2;c20,2;n2;l59;");
+        x.round(0, Draw.order(2, 1, 0), 0);
+        x.keep();
+        x.round(0, Draw.order(2, 0, 0), 0);
+        due.is("the first shout's step", x.shout(0, 2), 0);
+        x.back();
+        due.is("the step as kept", x.shout(0, 2), 1);
         x = Due.laid("v99,2;c0,2;v99,1;n3;x0;");
         x.round(0, Draw.order(3, 0, 1, 2), 0);
         x.keep();

@@ -14,6 +14,7 @@ public final class Promise13ShoutsTest {
         nothingStandsBehindATrade();
         shoutsBehindATradeStand();
         whoHasTradedIsSilent();
+        soonByTheShoutThatTakes();
         sidesDoNotTradeWithThemselves();
         lastIsThePriceWithTheTax();
         due.end();
@@ -141,6 +142,14 @@ public final class Promise13ShoutsTest {
         x = of("v99,2;c0,2;", order(0, 1, 0, 0), 50, 50);
         due.is("shouts", x.count(4), 3);
         due.is("the fourth shout", x.shout(3, 0), ShoutedPrices.BAD);
+    }
+
+    /** SOON is the STEP of what took the STANDING one, be it a bid or an offer, and 1. */
+    private static void soonByTheShoutThatTakes() {
+        due.is("an offer takes", Due.laid("v80,2;c20,2;n2;").round(0, Draw.order(2, 0, 1), 2), 2);
+        due.is("a bid takes", Due.laid("v80,2;c20,2;n2;").round(0, Draw.order(2, 1, 0), 2), 2);
+        due.is("an offer takes at the third", Due.laid("v60,2;v30,2;c20,2;n3;").round(0, Draw.order(3, 0, 1, 2), 2), 3);
+        due.is("a bid takes at the third of four", Due.laid("v99,2;c0,2;n4;").round(0, Draw.order(2, 0, 1, 0, 1), 2), 3);
     }
 
     private static void sidesDoNotTradeWithThemselves() {

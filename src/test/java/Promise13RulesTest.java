@@ -9,6 +9,7 @@ public final class Promise13RulesTest {
         pairsIfBothHaveNotTraded();
         pairsByTheirDraws();
         pairsAsTheyCome();
+        pairsOfTwenty();
         postedAtTheOfferAndTax();
         postedByThePersonsDraw();
         postedIsTheLowestLeft();
@@ -78,6 +79,19 @@ public final class Promise13RulesTest {
                 due.is("of(1, " + z + ", " + p + ")", x.of(1, z, p), p == buyer || p == seller ? 0 : NONE);
             }
         }
+    }
+
+    private static void pairsOfTwenty() {
+        boolean lastMet = false;
+        for (int z = 0; z < 60; z++) {
+            ShoutedPrices x = Due.laid("v99,2;".repeat(10) + "c0,2;".repeat(10) + "n1;");
+            int buyer = Draw.of(z, 0, 0) % 10, seller = 10 + Draw.of(z, 0, 2) % 10;
+            for (int p = 0; p < 20; p++) {
+                due.is("of(1, " + z + ", " + p + ") of 20", x.of(1, z, p), p == buyer || p == seller ? 0 : NONE);
+            }
+            lastMet |= seller == 19;
+        }
+        due.holds("the last one met a buyer", lastMet);
     }
 
     /** 60 is posted at the first of two steps. */

@@ -10,6 +10,7 @@ public final class Promise13RulesTest {
         pairsByTheirDraws();
         pairsAsTheyCome();
         pairsOfTwenty();
+        pairsNearLast();
         postedAtTheOfferAndTax();
         postedByThePersonsDraw();
         postedIsTheLowestLeft();
@@ -92,6 +93,33 @@ public final class Promise13RulesTest {
             lastMet |= seller == 19;
         }
         due.holds("the last one met a buyer", lastMet);
+    }
+
+    /** 66 is bid at the second of three steps for 33 and a TAX of 10: 43 is LAST at the third, for a buyer, for a seller. */
+    private static void pairsNearLast() {
+        int z = Draw.meetings(0, 2, 2, 0, 0, 0, 0, 1, 1);
+        String buyer = "v99,2;v99,1;c0,2;", seller = "v99,2;v54,2;c0,2;", more = "n3;x0;t10;";
+        of(buyer + "c32,2;" + more, 1, z, 43, 42, 43, 42);
+        of(buyer + "c33,2;" + more, 1, z, 43, 43, 43, 43);
+        of(buyer + "c34,2;" + more, 1, z, 43, NONE, 43, NONE);
+        of(seller + "c0,1;" + more, 1, z, 43, 53, 43, 53);
+        of(seller.replace("54", "53") + "c0,1;" + more, 1, z, 43, 53, 43, 53);
+        of(seller.replace("54", "52") + "c0,1;" + more, 1, z, 43, NONE, 43, NONE);
+        noLastOfTheRoundBefore(z);
+    }
+
+    /** Who is NEAR is BLIND at first, whatever was paid in the ROUND before. */
+    private static void noLastOfTheRoundBefore(int z) {
+        for (int rule = 1; rule <= 3; rule++) {
+            for (int next = 0; next < 20; next++) {
+                ShoutedPrices used = Due.laid("v99,2;v99,1;c0,2;c0,1;n3;x0;t10;");
+                due.holds("a trade", used.round(1, z, 0) > 0);
+                ShoutedPrices made = Due.laid("v99,2;v99,1;c0,2;c0,1;n3;x0;t10;");
+                for (int p = 0; p < 4; p++) {
+                    due.is("of " + p + " by rule " + rule + " at z " + next, used.of(rule, next, p), made.of(rule, next, p));
+                }
+            }
+        }
     }
 
     /** 60 is posted at the first of two steps. */

@@ -17,6 +17,7 @@ public final class Promise13ShoutsTest {
         soonByTheShoutThatTakes();
         sidesDoNotTradeWithThemselves();
         lastIsThePriceWithTheTax();
+        nothingOfTheRoundBefore();
         due.end();
     }
 
@@ -170,5 +171,25 @@ public final class Promise13ShoutsTest {
         ShoutedPrices x = of("c0,2;v99,2;v99,1;x0;t20;", order(1, 1, 0, 2), 49, 49, NONE);
         due.is("LAST", x.shout(3, 3), 49);
         due.is("what is near it", x.shout(3, 1), 49);
+    }
+
+    /** No STANDING bid, no STANDING offer, no LAST, nobody who has traded. */
+    private static void nothingOfTheRoundBefore() {
+        ShoutedPrices x = Due.laid("v80,2;c20,2;n2;");
+        int bids = Draw.order(2, 0, 0), offers = Draw.order(2, 1, 1), both = Draw.order(2, 1, 0);
+        for (int[] rounds : new int[][] {{bids, offers}, {offers, bids}, {both, offers}, {both, bids}}) {
+            x.round(0, rounds[0], 0);
+            due.is("traded", x.round(0, rounds[1], 0), 0);
+            due.is("shouts", x.count(4), 2);
+            due.is("LAST", x.shout(0, 3), NONE);
+        }
+        x.round(0, both, 0);
+        due.is("traded again", x.round(0, both, 0), 1);
+        // who is NEAR is BLIND at first
+        x = Due.laid("v99,1;c0,2;n3;x0;");
+        int z = Draw.order(2, 0, 1, 0);
+        x.round(0, Draw.order(2, 1, 0, 0), 0);
+        x.round(0, z, 0);
+        due.is("the first bid", x.shout(0, 1), Draw.of(z, 0, 1) % 100);
     }
 }

@@ -9,6 +9,7 @@ public final class Promise19LeastTest {
         theTaxAsTold();
         several();
         besideTheLines();
+        whoIsWrong();
         bad();
         due.end();
     }
@@ -80,6 +81,25 @@ public final class Promise19LeastTest {
             ShoutedPrices told = Due.laid(text.toString());
             least(x, told.lines(0), told.lines(1));
         }
+    }
+
+    /** By the LOG all the same: 62 is bid for a WORTH of 5, then 51 or 50 is offered; or 2 for a COST of 90, then 80 bid. */
+    private static void whoIsWrong() {
+        int z = Draw.order(i -> Draw.of(i, 0, 1) % 100 == 62, 2, 0, 1);
+        ShoutedPrices x = Due.laid("v5,5;c51,2;n2;t12;");
+        x.round(0, z, 0);
+        least(x, 0, 0);
+        x = Due.laid("v5,5;c50,2;n2;t12;");
+        x.round(0, z, 0);
+        least(x, 1, 12);
+        x.law(0, 0);
+        least(x, 1, 12);
+        x.law(1, 5);
+        least(x, 1, 12);
+        z = Draw.order(i -> Draw.of(i, 0, 1) % 100 == 2, 2, 1, 0);
+        x = Due.laid("v80,2;c90,5;n2;");
+        x.round(0, z, 0);
+        least(x, 1, 78);
     }
 
     private static void bad() {
